@@ -479,7 +479,7 @@ public final class LendingCells {
         }
 
         boolean isBankrupt(int c) {
-            return hasCell(c) && lateRounds[c] >= LATE_TO_BANKRUPT;
+            return c >= 0 && c < cellCount && lateRounds[c] >= LATE_TO_BANKRUPT;
         }
 
         int chargeOf(int c) {
@@ -597,7 +597,8 @@ public final class LendingCells {
         // ---- shuttles and loans
 
         int arriving(int n, int from, int to) {
-            return n - n * Math.abs(from - to) / SHUTTLE_DIVISOR;
+            int distance = from < to ? to - from : from - to;
+            return n - n * distance / SHUTTLE_DIVISOR;
         }
 
         /** The smallest size of a shuttle with which so many units, 1 or more, arrive. */
@@ -670,7 +671,7 @@ public final class LendingCells {
         }
 
         void removeLoan(int gone) {
-            if (!hasLoan(gone)) {
+            if (gone < 0 || gone >= loanCount) {
                 return;
             }
             for (int i = gone + 1; i < loanCount; i++) {
@@ -834,27 +835,28 @@ public final class LendingCells {
             return fallen;
         }
 
-        /** Parts what a cell that became bankrupt has left among its lenders; the rest becomes heat. */
+        /**
+         * Parts what a cell that became bankrupt has left among its lenders; the rest becomes heat. Unlike
+         * a shuttle, a share loses nothing by its way. (By the rules of a round, a cell that missed a loan
+         * has no charge left, so that the shares are always 0.)
+         */
         void shareOut(int c) {
+            if (!hasCell(c)) {
+                return;
+            }
             int left = chargeOf(c);
             int debt = owedBy(c);
             for (int i = 0; i < loanCount; i++) {
-                // A debt of 0 cannot be with such a loan, but the divisor is to be looked at.
-                if (borrowers[i] == c && debt > 0) {
-                    giveShare(c, lenders[i], left * owed[i] / debt);
+                int lender = lenders[i];
+                if (borrowers[i] == c && hasCell(lender) && debt > 0) {
+                    int share = left * owed[i] / debt;
+                    int kept = Math.min(share, roomOf(lender));
+                    charges[lender] += kept;
+                    heat += share - kept;
+                    charges[c] -= share;
                 }
             }
             loseAsHeat(c, chargeOf(c));
-        }
-
-        /** Unlike a shuttle, a share loses nothing by its way. */
-        void giveShare(int c, int lender, int share) {
-            if (hasCell(c) && hasCell(lender)) {
-                int kept = Math.min(share, roomOf(lender));
-                charges[c] -= share;
-                charges[lender] += kept;
-                heat += share - kept;
-            }
         }
 
         void dropLoansOf(int c) {
@@ -1012,7 +1014,8 @@ public final class LendingCells {
         }
 
         private int digitHere() {
-            return at < length && isWithin(signs[at], '0', '9') ? signs[at] - '0' : NONE;
+            boolean isDigit = at < length && signs[at] >= '0' && signs[at] <= '9';
+            return isDigit ? signs[at] - '0' : NONE;
         }
 
         private boolean isAt(char sign) {
