@@ -59,14 +59,16 @@ final class ActionSentences extends Sentences {
             refuses("capacity " + capacity, leaks, IAE, () -> leaks.addCell(capacity, 0, 0));
         }
         for (int capacity : new int[] {10, 50, 99}) {
+            LendingCells none = new LendingCells();
             for (int charge : outside(0, capacity)) {
-                refuses("charge " + charge, leaks, IAE, () -> leaks.addCell(capacity, charge, 0));
+                refuses("charge " + charge, none, IAE, () -> none.addCell(capacity, charge, 0));
             }
         }
+        LendingCells none = new LendingCells();
         for (int leak : outside(0, 3)) {
-            refuses("leak " + leak, leaks, IAE, () -> leaks.addCell(10, 0, leak));
+            refuses("leak " + leak, none, IAE, () -> none.addCell(10, 0, leak));
         }
-        refuses("a charge of 100", leaks, IAE, () -> leaks.addCell(100, 100, 0));
+        refuses("a charge of 100", none, IAE, () -> none.addCell(100, 100, 0));
 
         says("Throws IllegalStateException if there are 8 cells");
         refuses("a ninth", x, ISE, () -> x.addCell(10, 0, 0));
@@ -107,9 +109,10 @@ final class ActionSentences extends Sentences {
 
         says("Throws IndexOutOfBoundsException if there is no such cell");
         for (int c : outside(0, 2)) {
-            refuses("lender " + c, x, IOOBE, () -> x.lend(c, 0, 1, 0));
-            refuses("borrower " + c, x, IOOBE, () -> x.lend(0, c, 1, 0));
-            refuses("both " + c, x, IOOBE, () -> x.lend(c, c, 0, 51));
+            LendingCells z = Runs.loaded("Bc50500c50000c50000");
+            refuses("lender " + c, z, IOOBE, () -> z.lend(c, 0, 1, 0));
+            refuses("borrower " + c, z, IOOBE, () -> z.lend(0, c, 1, 0));
+            refuses("both " + c, z, IOOBE, () -> z.lend(c, c, 0, 51));
         }
 
         says("Throws IllegalArgumentException if both are the same, or n or rate is out of range");
@@ -117,11 +120,12 @@ final class ActionSentences extends Sentences {
             int both = c;
             refuses("both " + c, x, IAE, () -> x.lend(both, both, 1, 0));
         }
+        LendingCells other = Runs.loaded("Bc50500c50000");
         for (int n : outside(1, 99)) {
-            refuses("n " + n, x, IAE, () -> x.lend(0, 1, n, 0));
+            refuses("n " + n, other, IAE, () -> other.lend(0, 1, n, 0));
         }
         for (int rate : outside(0, 50)) {
-            refuses("rate " + rate, x, IAE, () -> x.lend(0, 1, 1, rate));
+            refuses("rate " + rate, other, IAE, () -> other.lend(0, 1, 1, rate));
         }
     }
 
@@ -180,14 +184,16 @@ final class ActionSentences extends Sentences {
 
         says("Throws IndexOutOfBoundsException if there is no such loan");
         refuses("gone", x, IOOBE, () -> x.repay(0, 1));
-        for (int i : outside(0, 9)) {
-            refuses("loan " + i, twelve, IOOBE, () -> twelve.repay(i, 1));
-            refuses("loan " + i + ", and 0", twelve, IOOBE, () -> twelve.repay(i, 0));
+        for (int i : outside(0, 11)) {
+            LendingCells z = Runs.loaded(TWELVE);
+            refuses("loan " + i, z, IOOBE, () -> z.repay(i, 1));
+            refuses("loan " + i + ", and 0", z, IOOBE, () -> z.repay(i, 0));
         }
 
         says("Throws IllegalArgumentException if m is out of range");
+        LendingCells one = Runs.loaded("Bc99990c99000l010100");
         for (int m : outside(1, 99)) {
-            refuses("m " + m, twelve, IAE, () -> twelve.repay(0, m));
+            refuses("m " + m, one, IAE, () -> one.repay(0, m));
         }
     }
 
@@ -245,8 +251,9 @@ final class ActionSentences extends Sentences {
         }
 
         says("Throws IllegalArgumentException if leak is out of range");
+        LendingCells y = Runs.loaded("Bc50100c50201");
         for (int leak : outside(0, 3)) {
-            refuses("leak " + leak, x, IAE, () -> x.setLeak(1, leak));
+            refuses("leak " + leak, y, IAE, () -> y.setLeak(1, leak));
         }
     }
 

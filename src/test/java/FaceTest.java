@@ -61,7 +61,8 @@ public final class FaceTest {
         }
         for (Class<?> inside : type.getDeclaredClasses()) {
             check.is("static " + inside, Modifier.isStatic(inside.getModifiers()), true);
-            check.is("private " + inside, Modifier.isPrivate(inside.getModifiers()), true);
+            check.is("public or protected " + inside,
+                    Modifier.isPublic(inside.getModifiers()) || Modifier.isProtected(inside.getModifiers()), false);
         }
         check.end();
     }

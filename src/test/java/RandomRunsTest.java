@@ -2,10 +2,13 @@ import java.util.ArrayList;
 import java.util.List;
 import java.util.Random;
 
-/** Long random runs of calls, each answered by the class and by PlainModel alike. */
+/** Random runs of calls, each answered by the class and by PlainModel alike. */
 public final class RandomRunsTest {
-    private static final int RUNS = 150;
-    private static final int CALLS = 512;
+    private static final int RUNS = 1500;
+    /** The document promises nothing of later calls of an object. */
+    private static final int MOST_CALLS = 512;
+    /** So many calls does a look at the whole state take at most. */
+    private static final int LOOK = 10 + 8 * 9 + 12 * 6;
     private static final int[] ODD = {Integer.MIN_VALUE, -1000, -1, 0, 8, 12, 51, 100, 101, 256, 100000, Integer.MAX_VALUE};
 
     private final Check check;
@@ -13,11 +16,14 @@ public final class RandomRunsTest {
     private final LendingCells real = new LendingCells();
     private final PlainModel model = new PlainModel();
     private final List<String> calls = new ArrayList<>();
+    /** Of different length, so that the look at its end sees the states in the midst of long runs too. */
+    private final int length;
     private boolean failed;
 
     private RandomRunsTest(Check check, long seed) {
         this.check = check;
         this.random = new Random(seed);
+        this.length = 1 + random.nextInt(MOST_CALLS - LOOK);
     }
 
     public static void main(String[] args) {
@@ -29,16 +35,19 @@ public final class RandomRunsTest {
     }
 
     private void run(int run) {
-        for (int k = 0; k < CALLS && !failed; k++) {
+        while (calls.size() < length && !failed) {
             one();
-            sameState();
         }
+        sameState();
         if (failed) {
             System.out.println("run " + run + ": " + String.join(" ", calls));
         }
     }
 
     private void both(String call, Check.Call asReal, Check.Call asModel) {
+        if (calls.size() >= length || failed) {
+            return;
+        }
         calls.add(call);
         String got = Check.outcome(asReal);
         String due = Check.outcome(asModel);
@@ -47,18 +56,19 @@ public final class RandomRunsTest {
     }
 
     private void sameState() {
-        check.is("account", real.about(4), real.about(3) + real.about(5) + real.about(6));
-        for (int what = 0; what <= 9 && !failed; what++) {
-            int w = what;
-            quiet("about " + w, real.about(w), model.about(w));
+        int[] account = new int[10];
+        for (int what = 0; what <= 9; what++) {
+            account[what] = real.about(what);
+            quiet("about " + what, account[what], model.about(what));
         }
-        for (int c = 0; c < real.about(0) && !failed; c++) {
+        quiet("account", account[4], account[3] + account[5] + account[6]);
+        for (int c = 0; c < model.about(0) && !failed; c++) {
             for (int what = 0; what <= 7; what++) {
                 quiet("cell " + c + " " + what, real.cell(c, what), model.cell(c, what));
             }
             quiet("order " + c, real.order(c), model.order(c));
         }
-        for (int i = 0; i < real.about(1) && !failed; i++) {
+        for (int i = 0; i < model.about(1) && !failed; i++) {
             for (int what = 0; what <= 5; what++) {
                 quiet("loan " + i + " " + what, real.loan(i, what), model.loan(i, what));
             }
@@ -86,11 +96,11 @@ public final class RandomRunsTest {
     }
 
     private int cell() {
-        return number(0, Math.max(0, real.about(0) - 1));
+        return number(0, Math.max(0, model.about(0) - 1));
     }
 
     private int loan() {
-        return number(0, Math.max(0, real.about(1) - 1));
+        return number(0, Math.max(0, model.about(1) - 1));
     }
 
     private int units() {
@@ -103,7 +113,7 @@ public final class RandomRunsTest {
 
     private void one() {
         int dice = random.nextInt(100);
-        if (dice < 8 || dice < 40 && real.about(0) < 3) {
+        if (dice < 8 || dice < 40 && model.about(0) < 3) {
             addCell();
         } else if (dice < 22) {
             int a = cell();
@@ -204,14 +214,14 @@ public final class RandomRunsTest {
     }
 
     private int group() {
-        int first = random.nextInt(real.about(0) + 1);
-        int second = random.nextInt(real.about(0) + 1);
+        int first = random.nextInt(model.about(0) + 1);
+        int second = random.nextInt(model.about(0) + 1);
         int last = random.nextInt(6) == 0 ? random.nextInt(100) : random.nextInt(12);
         int zeros = random.nextInt(12) == 0 ? random.nextInt(10) * 100 + random.nextInt(10) * 1000 : 0;
         switch (random.nextInt(10)) {
             case 0: return random.nextInt(100000);
             case 1: return 10000 + first * 1000 + second * 100 + last;
-            case 2: return 20000 + random.nextInt(real.about(1) + 1) * 100 + last;
+            case 2: return 20000 + random.nextInt(model.about(1) + 1) * 100 + last;
             case 3: return 30000 + last + zeros;
             case 4: return 40000 + last + zeros;
             case 5: return 50000 + last + zeros;

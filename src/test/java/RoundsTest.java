@@ -173,10 +173,11 @@ public final class RoundsTest {
             () -> x.addCell(50, 40, 1), () -> x.addCell(30, 0, 0), () -> x.lend(0, 1, 20, 50),
             () -> x.repay(0, 5), () -> x.setLeak(0, 3), () -> x.charge(50), () -> x.draw(30),
             () -> x.pass(9)};
+        seen[0] = Runs.state(x);
         for (int k = 0; k < actions.length; k++) {
-            seen[k] = Runs.state(x);
             actions[k].answer();
-            CHECK.is("17: something changed by " + k, Runs.state(x).equals(seen[k]), false);
+            seen[k + 1] = Runs.state(x);
+            CHECK.is("17: something changed by " + k, seen[k + 1].equals(seen[k]), false);
         }
         CHECK.is("17: a bankrupt one", x.about(9), 2);
         for (int k = actions.length - 1; k >= 0; k--) {

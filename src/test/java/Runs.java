@@ -41,20 +41,24 @@ final class Runs {
         }
     }
 
-    /** Everything that can be seen of the state. */
+    /** All numbers of the state, without those that come from the others; it takes few calls of the object. */
     static String state(LendingCells x) {
         StringBuilder seen = new StringBuilder();
-        for (int k = 0; k <= 9; k++) {
-            seen.append(x.about(k)).append(' ');
+        for (int what = 0; what <= 9; what++) {
+            seen.append(x.about(what)).append(' ');
         }
-        for (int c = 0; c < x.about(0); c++) {
-            for (int k = 0; k <= 7; k++) {
-                seen.append(k == 0 ? "| " : "").append(x.cell(c, k)).append(' ');
+        int cells = x.about(0);
+        for (int c = 0; c < cells; c++) {
+            seen.append("| ");
+            for (int what = 0; what <= 3; what++) {
+                seen.append(x.cell(c, what)).append(' ');
             }
         }
-        for (int i = 0; i < x.about(1); i++) {
-            for (int k = 0; k <= 5; k++) {
-                seen.append(k == 0 ? "/ " : "").append(x.loan(i, k)).append(' ');
+        int loans = x.about(1);
+        for (int i = 0; i < loans; i++) {
+            seen.append("/ ");
+            for (int what : new int[] {0, 1, 2, 3, 5}) {
+                seen.append(x.loan(i, what)).append(' ');
             }
         }
         return seen.toString();

@@ -239,14 +239,16 @@ final class ScriptSentences extends Sentences {
 
         says("Throws IllegalArgumentException if n is out of range, or if script is negative or has more than 5 * n digits");
         for (int n : outside(1, 3)) {
-            refuses("n " + n, x, IAE, () -> x.runScript(n, 0));
-            refuses("n " + n, x, IAE, () -> x.runScript(n, 60000_60000_60000L));
+            LendingCells y = three();
+            refuses("n " + n, y, IAE, () -> y.runScript(n, 0));
+            refuses("n " + n, y, IAE, () -> y.runScript(n, 60000_60000_60000L));
         }
         for (int n = 1; n <= 3; n++) {
             int commands = n;
             long tooLong = n == 1 ? 1_00000L : n == 2 ? 1_00000_00000L : 1_00000_00000_00000L;
+            LendingCells y = three();
             for (long script : new long[] {-1, -60000, Long.MIN_VALUE, tooLong, Long.MAX_VALUE}) {
-                refuses("script " + script, x, IAE, () -> x.runScript(commands, script));
+                refuses("script " + script, y, IAE, () -> y.runScript(commands, script));
             }
             is("one digit less", x.runScript(n, tooLong - 1), 0);
         }

@@ -247,8 +247,9 @@ final class StateSentences extends Sentences {
 
         says("Throws IndexOutOfBoundsException if there is no such cell");
         for (int c : outside(0, 2)) {
-            refuses("cell " + c, x, IOOBE, () -> x.cell(c, 0));
-            refuses("cell " + c + ", and no number", x, IOOBE, () -> x.cell(c, 8));
+            LendingCells y = Runs.loaded("Bc50500c50102c50203");
+            refuses("cell " + c, y, IOOBE, () -> y.cell(c, 0));
+            refuses("cell " + c + ", and no number", y, IOOBE, () -> y.cell(c, 8));
         }
         x.addCell(10, 0, 0);
         is("it is there", x.cell(3, 0), 10);
@@ -294,8 +295,9 @@ final class StateSentences extends Sentences {
         says("Throws IndexOutOfBoundsException if there is no such loan");
         refuses("one that was behind", x, IOOBE, () -> x.loan(1, 0));
         for (int i : outside(0, 0)) {
-            refuses("loan " + i, x, IOOBE, () -> x.loan(i, 0));
-            refuses("loan " + i + ", and no number", x, IOOBE, () -> x.loan(i, 6));
+            LendingCells y = Runs.loaded("Bc99990c99000l010100");
+            refuses("loan " + i, y, IOOBE, () -> y.loan(i, 0));
+            refuses("loan " + i + ", and no number", y, IOOBE, () -> y.loan(i, 6));
         }
         refuses("loan 12 of 12", twelve, IOOBE, () -> twelve.loan(12, 0));
         LendingCells none = Runs.loaded("Bc10100");

@@ -24,6 +24,11 @@ final class UndoSentences extends Sentences {
         questionsChangeNothing();
     }
 
+    /** A call, on an object and on one that is like it. */
+    interface CallOn {
+        long answer(LendingCells x);
+    }
+
     /** Everything that can be seen of an object, which is used up by it. */
     static String everything(LendingCells x) {
         List<String> seen = new ArrayList<>();
@@ -36,7 +41,8 @@ final class UndoSentences extends Sentences {
         seen.add(left);
         for (int slot = 0; slot < 2; slot++) {
             int s = slot;
-            seen.add(Check.outcome(() -> x.restore(s)) + " " + Runs.state(x));
+            String found = Check.outcome(() -> x.restore(s));
+            seen.add(found.startsWith("throws") ? found : found + " " + Runs.state(x));
         }
         seen.add(x.errorPosition() + " " + x.clearText());
         return String.join("\n", seen);
@@ -79,15 +85,16 @@ final class UndoSentences extends Sentences {
         Check.Call[] actions = {
             () -> x.addCell(50, 40, 1), () -> x.addCell(30, 0, 0), () -> x.lend(0, 1, 20, 50),
             () -> x.repay(0, 5), () -> x.setLeak(0, 3), () -> x.charge(50), () -> x.draw(30), () -> x.pass(9)};
-        for (Check.Call action : actions) {
+        seen.add(Runs.state(x));
+        for (int k = 0; k < actions.length; k++) {
+            actions[k].answer();
             seen.add(Runs.state(x));
-            action.answer();
-            is("it changes the state", Runs.state(x).equals(seen.get(seen.size() - 1)) ? 1 : 0, 0);
+            is("action " + k + " changes the state", seen.get(k + 1).equals(seen.get(k)) ? 1 : 0, 0);
         }
         is("a bankrupt one", x.about(9), 2);
         x.save(0);
         x.append('B');
-        for (int k = seen.size() - 1; k >= 0; k--) {
+        for (int k = actions.length - 1; k >= 0; k--) {
             x.undo();
             is("the state before action " + k, Runs.state(x), seen.get(k));
         }
@@ -182,8 +189,8 @@ final class UndoSentences extends Sentences {
 
     private void doesNotExist() {
         says("IndexOutOfBoundsException means that a cell or a loan does not exist, or that a save slot is not 0 or 1.");
-        LendingCells x = Runs.loaded("Bc99990c99000l010100");
         for (int c : outside(0, 1)) {
+            LendingCells x = Runs.loaded("Bc99990c99000l010100");
             String what = "cell " + c;
             refuses(what, x, IOOBE, () -> x.cell(c, 0));
             refuses(what, x, IOOBE, () -> x.lend(c, 0, 1, 0));
@@ -195,6 +202,7 @@ final class UndoSentences extends Sentences {
             refuses("slot " + c, x, IOOBE, () -> x.restore(c));
         }
         for (int i : outside(0, 0)) {
+            LendingCells x = Runs.loaded("Bc99990c99000l010100");
             String what = "loan " + i;
             refuses(what, x, IOOBE, () -> x.loan(i, 0));
             refuses(what, x, IOOBE, () -> x.repay(i, 1));
@@ -207,8 +215,8 @@ final class UndoSentences extends Sentences {
     private void outOfRange() {
         says("IllegalArgumentException means that another argument is out of its range. IllegalStateException means what "
                 + "the method says.");
-        LendingCells x = Runs.loaded("Bc99990c99000l010100");
         for (int n : outside(1, 99)) {
+            LendingCells x = Runs.loaded("Bc99990c99000l010100");
             String what = "units " + n;
             refuses(what, x, IAE, () -> x.lend(0, 1, n, 0));
             refuses(what, x, IAE, () -> x.repay(0, n));
@@ -220,44 +228,44 @@ final class UndoSentences extends Sentences {
             refuses("rounds " + n, x, IAE, () -> x.costs(0, n));
             refuses("rounds " + n, x, IAE, () -> x.simulate(0, n));
         }
-        refuses("rounds 51", x, IAE, () -> x.pass(51));
-        refuses("rounds 51", x, IAE, () -> x.costs(0, 51));
+        LendingCells y = Runs.loaded("Bc99990c99000l010100");
+        refuses("rounds 51", y, IAE, () -> y.pass(51));
+        refuses("rounds 51", y, IAE, () -> y.costs(0, 51));
         LendingCells empty = new LendingCells();
         refuses("as the method says", empty, ISE, empty::load);
-        refuses("as the method says", x, ISE, () -> x.lend(0, 1, 99, 0));
-        refuses("as the method says", x, ISE, x::undo);
+        refuses("as the method says", y, ISE, () -> y.lend(0, 1, 99, 0));
+        refuses("as the method says", y, ISE, y::undo);
+    }
+
+    private void refusesOnFull(String what, Class<? extends RuntimeException> due, CallOn call) {
+        LendingCells x = full();
+        refuses(what, x, due, () -> call.answer(x));
     }
 
     private void firstNamedFirst() {
         says("If several exceptions apply to a call, the one that its description names first is thrown.");
-        LendingCells x = full();
-        refuses("append: out of range, and full", x, IAE, () -> x.append(256));
-        refuses("cell: no cell, and no number", x, IOOBE, () -> x.cell(8, 8));
-        refuses("loan: no loan, and no number", x, IOOBE, () -> x.loan(12, 6));
-        refuses("addCell: out of range, and eight cells", x, IAE, () -> x.addCell(9, 0, 0));
-        refuses("lend: no cell, the same, out of range", x, IOOBE, () -> x.lend(8, 8, 0, 51));
-        refuses("lend: no borrower, twelve loans", x, IOOBE, () -> x.lend(0, -1, 1, 0));
-        refuses("lend: no lender, out of range", x, IOOBE, () -> x.lend(8, 0, 100, 0));
-        refuses("lend: the same, and twelve loans", x, IAE, () -> x.lend(0, 0, 1, 0));
-        refuses("lend: n out of range, and twelve loans", x, IAE, () -> x.lend(0, 1, 0, 0));
-        refuses("lend: the rate out of range, and twelve loans", x, IAE, () -> x.lend(0, 1, 1, 51));
-        refuses("repay: no loan, and out of range", x, IOOBE, () -> x.repay(12, 0));
-        refuses("repay: out of range, and less is owed", x, IAE, () -> x.repay(0, 100));
-        refuses("setLeak: no cell, and out of range", x, IOOBE, () -> x.setLeak(8, 4));
-        refuses("bestLender: no cell, and out of range", x, IOOBE, () -> x.bestLender(8, 0));
-        refuses("costs: no loan, and out of range", x, IOOBE, () -> x.costs(12, 0));
-        refuses("restore: no slot, and nothing saved", x, IOOBE, () -> x.restore(2));
+        refusesOnFull("append: out of range, and full", IAE, x -> x.append(256));
+        refusesOnFull("cell: no cell, and no number", IOOBE, x -> x.cell(8, 8));
+        refusesOnFull("loan: no loan, and no number", IOOBE, x -> x.loan(12, 6));
+        refusesOnFull("addCell: out of range, and eight cells", IAE, x -> x.addCell(9, 0, 0));
+        refusesOnFull("lend: no cell, the same, out of range", IOOBE, x -> x.lend(8, 8, 0, 51));
+        refusesOnFull("lend: no borrower, twelve loans", IOOBE, x -> x.lend(0, -1, 1, 0));
+        refusesOnFull("lend: no lender, out of range", IOOBE, x -> x.lend(8, 0, 100, 0));
+        refusesOnFull("lend: the same, and twelve loans", IAE, x -> x.lend(0, 0, 1, 0));
+        refusesOnFull("lend: n out of range, and twelve loans", IAE, x -> x.lend(0, 1, 0, 0));
+        refusesOnFull("lend: the rate out of range, and twelve loans", IAE, x -> x.lend(0, 1, 1, 51));
+        refusesOnFull("repay: no loan, and out of range", IOOBE, x -> x.repay(12, 0));
+        refusesOnFull("repay: out of range, and less is owed", IAE, x -> x.repay(0, 100));
+        refusesOnFull("setLeak: no cell, and out of range", IOOBE, x -> x.setLeak(8, 4));
+        refusesOnFull("bestLender: no cell, and out of range", IOOBE, x -> x.bestLender(8, 0));
+        refusesOnFull("costs: no loan, and out of range", IOOBE, x -> x.costs(12, 0));
+        refusesOnFull("restore: no slot, and nothing saved", IOOBE, x -> x.restore(2));
         LendingCells none = new LendingCells();
         refuses("draw: out of range, and no cells", none, IAE, () -> none.draw(0));
         refuses("draw: out of range, and no cells", none, IAE, () -> none.draw(100));
         LendingCells y = fallen();
         refuses("lend: the same, and bankrupt", y, IAE, () -> y.lend(1, 1, 1, 0));
         refuses("lend: out of range, and bankrupt", y, IAE, () -> y.lend(0, 1, 1, -1));
-    }
-
-    /** A call, on an object and on one that is like it. */
-    interface CallOn {
-        long answer(LendingCells x);
     }
 
     private void changesNothing(String what, Supplier<LendingCells> made, boolean refused, CallOn call) {

@@ -169,14 +169,16 @@ final class WouldBeSentences extends Sentences {
 
         says("Throws IndexOutOfBoundsException if there is no such cell");
         for (int c : outside(0, 2)) {
-            refuses("cell " + c, x, IOOBE, () -> x.bestLender(c, 1));
-            refuses("cell " + c + ", and 0", x, IOOBE, () -> x.bestLender(c, 0));
+            LendingCells y = Runs.loaded("Bc50200c50200c50200");
+            refuses("cell " + c, y, IOOBE, () -> y.bestLender(c, 1));
+            refuses("cell " + c + ", and 0", y, IOOBE, () -> y.bestLender(c, 0));
         }
 
         says("Throws IllegalArgumentException if n is out of range");
         for (int n : outside(1, 99)) {
-            refuses("n " + n, x, IAE, () -> x.bestLender(0, n));
-            refuses("bankrupt, n " + n, fallen, IAE, () -> fallen.bestLender(1, n));
+            LendingCells y = fallen();
+            refuses("n " + n, y, IAE, () -> y.bestLender(0, n));
+            refuses("bankrupt, n " + n, y, IAE, () -> y.bestLender(1, n));
         }
     }
 
@@ -224,15 +226,17 @@ final class WouldBeSentences extends Sentences {
 
         says("Throws IndexOutOfBoundsException if there is no such loan");
         for (int i : outside(0, 0)) {
-            refuses("loan " + i, x, IOOBE, () -> x.costs(i, 1));
-            refuses("loan " + i + ", and 0", x, IOOBE, () -> x.costs(i, 0));
+            LendingCells single = Runs.loaded("Bc99990c99000l010110");
+            refuses("loan " + i, single, IOOBE, () -> single.costs(i, 1));
+            refuses("loan " + i + ", and 0", single, IOOBE, () -> single.costs(i, 0));
         }
         LendingCells none = fallen();
         refuses("gone", none, IOOBE, () -> none.costs(0, 1));
 
         says("Throws IllegalArgumentException if rounds is out of range");
+        LendingCells single = Runs.loaded("Bc99990c99000l010110");
         for (int rounds : outside(1, 50)) {
-            refuses("rounds " + rounds, x, IAE, () -> x.costs(0, rounds));
+            refuses("rounds " + rounds, single, IAE, () -> single.costs(0, rounds));
         }
     }
 }
